@@ -1190,10 +1190,9 @@ public final class LuckJars {
             return moments[deeds];
         }
 
+        // No deed is ever done to the first moment itself: its day is 0, and nothing is on the quay.
         Moment startAnew() {
             deeds = 0;
-            moments[0].dayNumber = 0;
-            moments[0].quay = 0;
             return moments[0];
         }
 

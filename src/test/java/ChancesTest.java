@@ -27,6 +27,9 @@ public final class ChancesTest {
         LuckJars z = Due.placed("k1420 h5100");
         Due.chance("odds: greedy, turns", z, z.odds(1, 4), 7, 9);
         Due.is("odds: aside", z.count(1), 0);
+        LuckJars slow = Due.placed("h3100 h3100");
+        Due.chance("odds: not in one day", slow, slow.odds(1, 6), 0, 1);
+        Due.chance("mid: not in one day", slow, slow.mid(6), 0, 1);
     }
 
     private static void oddsRefused() {

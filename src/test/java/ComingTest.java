@@ -84,6 +84,8 @@ public final class ComingTest {
         Due.is("lacks: turned", y.lacks(2), LuckJars.NONE);
         Due.is("lacks: asked stays", y.asked(), 20);
         Due.both("lacks: turned, not hard", y, y.lacks(3), 0, 0);
+        LuckJars z = Due.placed("h0999 h0998");
+        Due.both("lacks: a full jar", z, z.lacks(0), 0, 99);
     }
 
     private static void share() {
@@ -105,6 +107,13 @@ public final class ComingTest {
         Due.both("share: the least number, not the least cups", y, y.share(), 10, 18);
         y.leave(3, 18);
         Due.both("share: two by the least number", y, y.share(), 13, 36);
+        LuckJars none = Due.placed("h0900 h0900");
+        Due.both("share: none can be", none, none.share(), 0, 0);
+        LuckJars one = Due.placed("h0900 h0000");
+        Due.both("share: the second alone", one, one.share(), 2, 0);
+        LuckJars two = Due.placed("h0410 h0310 h0406 h0099");
+        two.leave(3, 15);
+        Due.both("share: more works ahead of greater numbers", two, two.share(), 11, 15);
     }
 
     private static void best() {
@@ -115,8 +124,10 @@ public final class ComingTest {
         LuckJars z = Due.placed("h1400 h1400");
         Due.both("best: day 20", z, z.best(), 20, 2);
         Due.is("best: aside", z.count(1), 0);
-        LuckJars late = Due.placed("h1500 h1500");
+        LuckJars late = Due.placed("h1504 h1504");
         Due.both("best: not by then", late, late.best(), 0, 0);
+        LuckJars soon = Due.placed("h1505 h1505");
+        Due.both("best: just by then", soon, soon.best(), 20, 2);
         LuckJars cat = Due.placed("c0920 h9100");
         Due.both("best: a cat", cat, cat.best(), 3, 2);
     }
@@ -139,6 +150,8 @@ public final class ComingTest {
         Due.is("lending: aside", two.count(2) + two.count(3), 0);
         Due.is("lending: 0", x.lending(0), LuckJars.BAD);
         Due.is("lending: 100", x.lending(100), LuckJars.BAD);
+        LuckJars back = Due.placed("h0403 h0099");
+        Due.both("lending: to the first", back, back.lending(17), 10, 2);
         LuckJars full = Due.placed("h0099 w0099 h0900");
         Due.both("lending: 99", full, full.lending(99), 2, 3);
     }
@@ -160,6 +173,8 @@ public final class ComingTest {
         Due.both("greedy: without the quay", y, y.greedy(19), 1, 0);
         y.day();
         Due.both("greedy: odd day", y, y.greedy(9), 1, 0);
+        LuckJars none = Due.placed("o0007 h0005");
+        Due.both("greedy: nothing", none, none.greedy(0), 2, 2);
         Due.both("greedy: a greedy cat", y, y.greedy(12), 1, 2);
     }
 

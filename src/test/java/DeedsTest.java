@@ -157,6 +157,16 @@ public final class DeedsTest {
         jars("on: undone", x, 5, 11);
         Due.is("on: the kept one stays", x.on(0), 2);
         jars("on: again", x, 8, 10);
+        x.undo(0);
+        x.leave(0, 5);
+        x.lend(1, 0, 2);
+        x.day();
+        Due.is("on: behind other deeds", x.on(0), 2);
+        jars("on: behind other deeds", x, 8, 10);
+        Due.is("on: quay behind other deeds", x.count(3), 3);
+        Due.is("on: back behind other deeds", x.undo(1), 1);
+        jars("on: back behind other deeds", x, 8, 13);
+        x.on(0);
         Due.is("keep: over", x.undo(1), 1);
         Due.is("keep: over", x.keep(0), 1);
         Due.is("on: another", x.on(2), 0);

@@ -3,6 +3,9 @@ final class Due {
     static final int NOTHING = 1, BEYOND = 2, UNLIKE = 3, NOUGHT = 4, SIZE = 5;
     static final int LEAST = Integer.MIN_VALUE, MOST = Integer.MAX_VALUE;
 
+    // One fault can turn thousands of answers: the first ones tell enough.
+    private static final int SHOWN = 40;
+
     private static int wrong = 0;
 
     private Due() {
@@ -11,7 +14,9 @@ final class Due {
     static void is(String call, long got, long want) {
         if (got != want) {
             wrong++;
-            System.out.println(call + " answered " + got + ", due is " + want);
+            if (wrong <= SHOWN) {
+                System.out.println(call + " answered " + got + ", due is " + want);
+            }
         }
     }
 

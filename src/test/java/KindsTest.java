@@ -80,6 +80,14 @@ public final class KindsTest {
         unlike(x, 0, 301, true);
         unlike(x, 0, 300, false);
         unlike(x, 99, 0, false);
+        Due.row(x, 3, 100, 4, 4, 4);
+        Due.finds("kinds: the first is unlike", x, x.kinds(0, 3), Due.UNLIKE);
+        x.row(4, 40);
+        Due.is("kinds: twenty pairs", x.kinds(0, 4), 45);
+        x.lay(4, 39, 3);
+        Due.is("kinds: the last pair", x.kinds(0, 4), 0);
+        x.lay(4, 39, 301);
+        Due.finds("kinds: the last is unlike", x, x.kinds(0, 4), Due.UNLIKE);
     }
 
     private static void unlike(LuckJars x, int jar, int worth, boolean wanted) {
@@ -131,6 +139,12 @@ public final class KindsTest {
         Due.is("duel: the other takes it", turned.duel(0, 1, 2), 507);
         LuckJars few = Due.placed("k0005 h0030");
         Due.is("duel: leaves less", few.duel(1, 0, 1), 525);
+        LuckJars still = Due.placed("h0010 k0020");
+        still.leave(0, 9);
+        Due.is("duel: best left to lie", still.duel(1, 0, 2), 510);
+        LuckJars six = Due.placed("h0000 g0000 o0099");
+        six.leave(2, 50);
+        Due.is("duel: six turns", six.duel(0, 1, 6), 481);
     }
 
     private static void duelRefused() {

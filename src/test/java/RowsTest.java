@@ -162,6 +162,12 @@ public final class RowsTest {
         Due.tells("mean: least", x, x.mean(0), Due.LEAST);
         Due.row(x, 0, 5);
         Due.tells("mean: one", x, x.mean(0), 5);
+        x.row(2, 40);
+        for (int i = 0; i < 40; i++) {
+            x.lay(2, i, 3 * i);
+        }
+        Due.tells("mean: of forty", x, x.mean(2), 58);
+        Due.tells("mean: of one again", x, x.mean(0), 5);
         Due.is("mean: -1", x.mean(-1), LuckJars.BAD);
         Due.is("mean: 6", x.mean(6), LuckJars.BAD);
         Due.finds("mean: missing", x, x.mean(1), Due.NOTHING);

@@ -90,6 +90,13 @@ public final class TextsTest {
         faultIs("h9901h9901h9901h9901h9901h9901h9901 1", 36);
         faultIs("h9901h9901\t", 10);
         faultIs("h9901h9901" + (char) 232, 10);
+        String blanks = " ".repeat(50);
+        faultIs(blanks + "h9901h9901", LuckJars.NONE);
+        faultIs(blanks + "  h9901h99", 60);
+        faultIs(blanks + "     h9901", 60);
+        faultIs(blanks + "h9901h990x", 59);
+        faultIs(blanks + "          ", 60);
+        faultIs("h9901h9901" + blanks, LuckJars.NONE);
     }
 
     private static void faultRefused() {
@@ -110,6 +117,9 @@ public final class TextsTest {
         Due.tells("place: jar", x, x.house(0, 3), 15);
         Due.tells("place: second kind", x, x.house(1, 0), 0);
         Due.tells("place: second jar", x, x.house(1, 3), 5);
+        Due.write(x, 1, " ".repeat(50) + "w9876o5432");
+        Due.is("place: sixty signs", x.place(1), 2);
+        Due.tells("place: sixty signs, jar", x, x.house(1, 3), 32);
         Due.write(x, 0, "h0099" + "w0098" + "g0097" + "k0096" + "o0095" + "c0094" + "h0093");
         Due.is("place: seven", x.place(0), 7);
         for (int i = 0; i < 7; i++) {
@@ -184,6 +194,9 @@ public final class TextsTest {
         Due.is("house: 2", x.house(2, 0), LuckJars.BAD);
         Due.is("house: what -1", x.house(0, -1), LuckJars.BAD);
         Due.is("house: what 7", x.house(0, 7), LuckJars.BAD);
+        Due.is("house: what 8", x.house(0, 8), LuckJars.BAD);
+        Due.is("house: least what", x.house(0, Due.LEAST), LuckJars.BAD);
+        Due.is("house: most what", x.house(0, Due.MOST), LuckJars.BAD);
         Due.is("house: asked stays", x.asked(), 5);
         Due.is("house: none", new LuckJars().house(0, 0), LuckJars.BAD);
     }
@@ -208,6 +221,7 @@ public final class TextsTest {
         }
         Due.is("mark: kind 0", x.mark(0, 0), LuckJars.BAD);
         Due.is("mark: kind 6", x.mark(0, 6), LuckJars.BAD);
+        Due.is("mark: kind 7", x.mark(0, 7), LuckJars.BAD);
         Due.is("mark: kind -1", x.mark(0, -1), LuckJars.BAD);
         Due.is("mark: -1", x.mark(-1, 1), LuckJars.BAD);
         Due.is("mark: 7", x.mark(7, 1), LuckJars.BAD);

@@ -87,6 +87,9 @@ public final class ToldTest {
         for (int what = 0; what < 12; what++) {
             Due.is("count " + what, x.count(what), want[what]);
         }
+        LuckJars y = Due.placed("w3405 c2311");
+        Due.is("count: a widow first", y.count(10), 1);
+        Due.is("count: a cat last", y.count(11), 1);
         Due.is("count: -1", x.count(-1), LuckJars.BAD);
         Due.is("count: 12", x.count(12), LuckJars.BAD);
         Due.is("count: most", x.count(Due.MOST), LuckJars.BAD);
