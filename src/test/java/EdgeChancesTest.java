@@ -43,6 +43,10 @@ public final class EdgeChancesTest {
         Due.chance("odds: it comes off if nothing is found", turns, turns.odds(1, 5), 5, 12);
         LuckJars hard = Due.placed("h9909 h9936");
         Due.chance("odds: in one day", hard, hard.odds(1, 3), 3, 4);
+        LuckJars slow = Due.placed("h3100 h4101");
+        Due.chance("odds: not in one day", slow, slow.odds(2, 0), 0, 1);
+        Due.chance("odds: one in one day", slow, slow.odds(1, 0), 1, 1);
+        Due.chance("mid: one in one day", slow, slow.mid(0), 1, 1);
     }
 
     // "(0 by 1)"; by p 0 and 12 it is sure

@@ -73,7 +73,8 @@ public final class EdgeKindsTest {
 
     // "The JAR (0 .. 99) to ask ...: the greatest part ... is least (the first); that part by asked()."
     private static void testBounds() {
-        int[][] all = {{5, 10, 0, 1}, {21, 21, 0, 1}, {3, 6, 0, 1}, {20, 20, 21, 1}, {0, 0, 21, 1}, {5, 5, 21, 1}};
+        int[][] all = {{21, 21, 0, 1}, {99, 102, 0, 1}, {5, 10, 0, 1}, {21, 0, 0, 1}, {4, 14, 0, 1}, {2, 0, 0, 1},
+            {3, 6, 0, 1}, {8, 11, 0, 1}, {20, 20, 21, 1}, {0, 0, 21, 1}, {5, 5, 21, 1}};
         for (int[] one : all) {
             LuckJars x = withPairs(one[0], one[1]);
             Due.both("test by " + one[0] + ", " + one[1], x, x.test(0, 4), one[2], one[3]);

@@ -268,9 +268,14 @@ public final class EdgeTextsTest {
             Due.finds("place: anew, kept " + k, x, x.on(k), Due.NOTHING);
         }
         LuckJars y = Edge.full();
-        y.keep(0);
+        for (int k = 0; k < 3; k++) {
+            y.keep(k);
+        }
         Due.write(y, 1, "c0103 h0000");
         Due.is("place: of fewer houses, behind forty deeds", y.place(1), 2);
+        for (int k = 0; k < 3; k++) {
+            Due.finds("place: of fewer houses, kept " + k, y, y.on(k), Due.NOTHING);
+        }
         Edge.jars("place: of fewer houses", y, 3, 0);
         Edge.refused("place: of fewer houses, the third", () -> Due.placed("c0103 h0000"), LuckJars.BAD,
             z -> z.house(2, 0));
