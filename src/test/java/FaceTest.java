@@ -12,6 +12,8 @@ import java.util.HashSet;
 import java.util.List;
 import java.util.Map;
 import java.util.Set;
+import java.util.regex.Matcher;
+import java.util.regex.Pattern;
 
 /** The public face, and those rules of LANGUAGE.md that can be looked at from outside. */
 public final class FaceTest {
@@ -29,6 +31,9 @@ public final class FaceTest {
     private static final String[] NOT_THERE = {"throw ", "throws ", "try ", "catch ", "synchronized", "assert ", "->",
         "::", "package ", "Exact(", "System.out", "System.nano", "System.current", "Math.random", "Math.sqrt",
         "java.io", "java.time", "Thread", "instanceof Object", "String.", "\" +", "+ \""};
+    private static final Set<String> LIBRARY = Set.of("Arrays.fill", "Integer.bitCount", "Math.max", "Math.min",
+        "System.arraycopy");
+    private static final int MOST_LINES = 60;
 
     public static void main(String[] args) throws IOException {
         methods();
@@ -126,5 +131,27 @@ public final class FaceTest {
             boolean other = line.startsWith("import ") && !line.equals("import java.util.Arrays;");
             Due.is("no other library: " + line, other ? 1 : 0, 0);
         }
+        library(code);
+        lengths(code);
+    }
+
+    private static void library(String code) {
+        Matcher call = Pattern.compile("\\b[A-Z][A-Za-z]*\\.[a-z]\\w*").matcher(code);
+        while (call.find()) {
+            Due.is("of the library: " + call.group(), LIBRARY.contains(call.group()) ? 1 : 0, 1);
+        }
+    }
+
+    // A method ends by a brace as deep as its first line stands.
+    private static void lengths(String code) {
+        Matcher method = Pattern.compile("(?m)^( {4}| {8})\\w[\\w ]*\\([^()]*\\) \\{$").matcher(code);
+        int methods = 0;
+        while (method.find()) {
+            int end = code.indexOf("\n" + method.group(1) + "}", method.start());
+            long lines = end < 0 ? code.length() : code.substring(method.start(), end).lines().count() + 1;
+            Due.is("some sixty lines: " + method.group().trim(), lines > MOST_LINES ? 1 : 0, 0);
+            methods++;
+        }
+        Due.is("methods found: " + methods, methods < FACE.length ? 1 : 0, 0);
     }
 }
